@@ -11,16 +11,19 @@ import java.util.TreeSet;
 public final class FaceTest {
     private static final Check check = new Check();
     private static final Class<?> face = LastRunLevel.class;
+    private static final String FACE = "The public face";
 
     public static void main(String[] args) {
         theClass();
         theConstructor();
         theMethods();
+        noPublicConstants();
         theFields();
         check.end();
     }
 
     private static void theClass() {
+        check.sentence(FACE, "public final class LastRunLevel");
         check.holds("public and final", face.getModifiers() == (Modifier.PUBLIC | Modifier.FINAL));
         check.holds("no package", face.getPackageName().isEmpty());
         check.holds("no nested class", face.getDeclaredClasses().length == 0);
@@ -29,6 +32,7 @@ public final class FaceTest {
     }
 
     private static void theConstructor() {
+        check.sentence(FACE, "public LastRunLevel()");
         Constructor<?>[] all = face.getDeclaredConstructors();
         check.holds("one constructor", all.length == 1);
         check.holds("it is public", Modifier.isPublic(all[0].getModifiers()));
@@ -36,6 +40,7 @@ public final class FaceTest {
     }
 
     private static void theMethods() {
+        check.sentence(FACE, "public int feed(int c), finish(), event(int i), count()");
         Set<String> seen = new TreeSet<>();
         Set<String> hidden = new TreeSet<>();
         for (Method method : face.getDeclaredMethods()) {
@@ -54,7 +59,13 @@ public final class FaceTest {
         }
     }
 
+    private static void noPublicConstants() {
+        check.sentence("What it is", "The class has no public constants.");
+        check.holds("no public field", face.getFields().length == 0);
+    }
+
     private static void theFields() {
+        check.sentence("LANGUAGE.md, rules 1 and 5", "fields are private, static ones constants of int or long");
         for (Field field : face.getDeclaredFields()) {
             check.holds(field.getName() + " is private", isPrivate(field));
             boolean fixed = Modifier.isFinal(field.getModifiers());

@@ -61,6 +61,7 @@ public final class ModelTest {
 
     /** Every run of DEPTH calls, from a fresh object and from ones whose store is full or nearly so. */
     private static void everyShortRun() {
+        check.sentence("Promises 1 to 5", "every short run of calls");
         int kinds = FED.length + FINISH;
         int runs = 1;
         for (int i = 0; i < DEPTH; i++) {
@@ -99,6 +100,7 @@ public final class ModelTest {
 
     /** Long mixed runs; the numbers come from a fixed sequence, so every session sees the same ones. */
     private static void longRuns() {
+        check.sentence("Promises 1 to 5", "long mixed runs of calls");
         long seed = 1;
         for (int object = 0; object < 300; object++) {
             LastRunLevel x = new LastRunLevel();
